@@ -24,7 +24,7 @@ final class AddTest {
     private static void testShape(int rows, int columns, int factor) {
         int[] a = Reference.series(rows, rows * columns);
         int[] b = Reference.series(-columns, rows * columns);
-        ExactTransformDesk desk = new ExactTransformDesk();
+        ExactTransformDesk desk = Checks.used();
         Checks.fill(desk, 2, rows, columns, a);
         Checks.fill(desk, 0, rows, columns, b);
         String call = rows + " by " + columns + ", add(3, 2, 0, " + factor + ")";

@@ -64,7 +64,9 @@ final class Checks {
 
     static int[] read(ExactTransformDesk desk, int v) {
         int size = desk.size(v);
-        int[] elements = new int[(size / 32) * (size % 32)];
+        boolean sound = isShape(size / 32, size % 32);
+        due("size(" + v + ") is that of a table", sound, true);
+        int[] elements = new int[sound ? (size / 32) * (size % 32) : 0];
         for (int i = 0; i < elements.length; i++) {
             elements[i] = desk.at(v, i);
         }
@@ -78,15 +80,39 @@ final class Checks {
         }
     }
 
-    static ExactTransformDesk deskWithRow(int... elements) {
+    /** As new, but after one call of every kind, so that what such a call leaves behind inside would show. */
+    static ExactTransformDesk used() {
         ExactTransformDesk desk = new ExactTransformDesk();
+        fill(desk, 0, 1, 16, Reference.series(99, 16));
+        fill(desk, 1, 1, 16, 16, 15, 14, 13, 12, 11, 10, 9, 8, 7, 6, 5, 4, 3, 2, 1);
+        desk.interpolate(2, 1, 0);
+        desk.reciprocal(2, 1);
+        desk.chirp(2, 0, 3, 4);
+        desk.convolve(2, 0, 1, 2);
+        desk.rotate(2, 5);
+        desk.add(3, 0, 1, 9);
+        desk.evaluate(0, 6);
+        desk.recurrence(1);
+        desk.predict(0);
+        desk.shape(3, 3, 16);
+        desk.put(3, 0, 5);
+        desk.transform(3, 2, false);
+        desk.multiply(2, 3, 3);
+        for (int v = 0; v < 4; v++) {
+            desk.shape(v, 1, 1);
+        }
+        return desk;
+    }
+
+    static ExactTransformDesk deskWithRow(int... elements) {
+        ExactTransformDesk desk = used();
         fill(desk, 0, 1, elements.length, elements);
         return desk;
     }
 
     /** Rows of 4 in tables 0 and 1, of which 1 starts with 0 and has a repeat; 2 by 2 in table 2; a row of 3 in table 3. */
     static ExactTransformDesk furnished() {
-        ExactTransformDesk desk = new ExactTransformDesk();
+        ExactTransformDesk desk = used();
         fill(desk, 0, 1, 4, 5, 7, 11, P - 1);
         fill(desk, 1, 1, 4, 0, 8, 3, 8);
         fill(desk, 2, 2, 2, 21, 22, 23, 24);

@@ -34,7 +34,7 @@ final class ChirpTest {
     }
 
     private static void testRow(int[] a, int start, int step) {
-        ExactTransformDesk desk = new ExactTransformDesk();
+        ExactTransformDesk desk = Checks.used();
         Checks.fill(desk, 1, 1, a.length, a);
         desk.shape(3, 4, 5);
         String call = a.length + " elements, chirp(3, 1, " + start + ", " + step + ")";

@@ -20,7 +20,7 @@ final class ConvolveTest {
     }
 
     private static void testTables(int[] a, int[] b, int rows, int columns, int kind) {
-        ExactTransformDesk desk = new ExactTransformDesk();
+        ExactTransformDesk desk = Checks.used();
         int left = kind;
         int right = (kind + 1) % 4;
         int target = (kind + 2) % 4;
@@ -48,7 +48,7 @@ final class ConvolveTest {
     }
 
     private static void testByHand() {
-        ExactTransformDesk desk = new ExactTransformDesk();
+        ExactTransformDesk desk = Checks.used();
         Checks.fill(desk, 0, 1, 3, 1, 10, 100);
         Checks.fill(desk, 1, 1, 3, 2, 3, 5);
         desk.convolve(2, 0, 1, 0);
@@ -61,7 +61,7 @@ final class ConvolveTest {
 
     /** Kind 2 takes the sign from the columns alone, however the rows wrap around. */
     private static void testKindTwoDownOneColumn() {
-        ExactTransformDesk desk = new ExactTransformDesk();
+        ExactTransformDesk desk = Checks.used();
         Checks.fill(desk, 0, 3, 1, 1, 10, 100);
         Checks.fill(desk, 1, 3, 1, 2, 3, 5);
         desk.convolve(2, 0, 1, 2);
@@ -72,7 +72,7 @@ final class ConvolveTest {
         int[] a = Reference.series(61, 12);
         int[] b = Reference.series(62, 12);
         for (int kind = 0; kind <= 2; kind++) {
-            ExactTransformDesk desk = new ExactTransformDesk();
+            ExactTransformDesk desk = Checks.used();
             Checks.fill(desk, 0, 3, 4, a);
             Checks.fill(desk, 1, 3, 4, b);
             Checks.due("convolve(0, 0, 1, " + kind + ")", desk.convolve(0, 0, 1, kind), true);

@@ -3,7 +3,7 @@ final class EvaluateTest {
     private static void testEveryLength() {
         for (int n = 1; n <= 16; n++) {
             for (int[] x : new int[][] {Reference.series(n, n), Reference.repeated(Checks.P - 1, n)}) {
-                ExactTransformDesk desk = new ExactTransformDesk();
+                ExactTransformDesk desk = Checks.used();
                 Checks.fill(desk, 2, 1, n, x);
                 for (int point : Checks.EDGE_INTS) {
                     int want = Reference.valueAt(x, Reference.mod(point));

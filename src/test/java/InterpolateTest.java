@@ -9,7 +9,7 @@ final class InterpolateTest {
 
     private static void testPoints(int[] a, int[] b) {
         int n = a.length;
-        ExactTransformDesk desk = new ExactTransformDesk();
+        ExactTransformDesk desk = Checks.used();
         Checks.fill(desk, 1, 1, n, a);
         Checks.fill(desk, 0, 1, n, b);
         desk.shape(3, 5, 9);
@@ -36,7 +36,7 @@ final class InterpolateTest {
     }
 
     private static void testOnePolynomialForEveryOrder() {
-        ExactTransformDesk desk = new ExactTransformDesk();
+        ExactTransformDesk desk = Checks.used();
         Checks.fill(desk, 0, 1, 3, 5, 0, 1);
         Checks.fill(desk, 1, 1, 3, 3 - 20 + 50, 3, 3 - 4 + 2);
         desk.interpolate(2, 0, 1);
@@ -55,7 +55,7 @@ final class InterpolateTest {
         for (int n : new int[] {2, 3, 8, 16}) {
             for (int i = 0; i < n; i++) {
                 for (int j = 0; j < i; j++) {
-                    ExactTransformDesk desk = new ExactTransformDesk();
+                    ExactTransformDesk desk = Checks.used();
                     Checks.fill(desk, 0, 1, n, points(0, 5, n));
                     Checks.fill(desk, 1, 1, n, points(3, 1, n));
                     desk.put(0, i, desk.at(0, j) - Checks.P);

@@ -11,7 +11,7 @@ final class MultiplyTest {
     private static void testShape(int rows, int columns) {
         int[] a = Reference.series(7 * rows, rows * columns);
         int[] b = Reference.series(-7 * columns, rows * columns);
-        ExactTransformDesk desk = new ExactTransformDesk();
+        ExactTransformDesk desk = Checks.used();
         Checks.fill(desk, 1, rows, columns, a);
         Checks.fill(desk, 3, rows, columns, b);
         String call = rows + " by " + columns + ", multiply(0, 1, 3)";

@@ -11,7 +11,7 @@ final class PutTest {
             Checks.due(call, desk.put(2, 1, x), true);
             Checks.dueTable(call, desk, 2, 2, 2, 21, Reference.mod(x), 23, 24);
         }
-        ExactTransformDesk desk = new ExactTransformDesk();
+        ExactTransformDesk desk = Checks.used();
         desk.put(0, 0, -1);
         Checks.due("at after put of -1", desk.at(0, 0), 1014773760);
         desk.put(0, 0, 1014773761);
@@ -23,7 +23,7 @@ final class PutTest {
     }
 
     private static void testTablesStandApart() {
-        ExactTransformDesk desk = new ExactTransformDesk();
+        ExactTransformDesk desk = Checks.used();
         for (int v = 0; v < 4; v++) {
             desk.shape(v, 6, 8);
         }

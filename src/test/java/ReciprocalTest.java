@@ -13,7 +13,7 @@ final class ReciprocalTest {
     }
 
     private static void testRow(int[] a) {
-        ExactTransformDesk desk = new ExactTransformDesk();
+        ExactTransformDesk desk = Checks.used();
         Checks.fill(desk, 3, 1, a.length, a);
         desk.shape(1, 6, 7);
         String call = a.length + " elements from " + a[0] + ", reciprocal(1, 3)";
@@ -51,7 +51,7 @@ final class ReciprocalTest {
         Checks.refused("reciprocal of a row from -P", desk, d -> d.reciprocal(3, 0));
         Checks.fill(desk, 0, 3, 1, 1, 2, 3);
         Checks.refused("reciprocal of one column", desk, d -> d.reciprocal(3, 0));
-        Checks.refused("reciprocal of the single 0", new ExactTransformDesk(), d -> d.reciprocal(1, 0));
+        Checks.refused("reciprocal of the single 0", Checks.used(), d -> d.reciprocal(1, 0));
     }
 
     public static void main(String[] args) {

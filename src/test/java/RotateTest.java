@@ -22,7 +22,7 @@ final class RotateTest {
     }
 
     private static void testByHand() {
-        ExactTransformDesk desk = new ExactTransformDesk();
+        ExactTransformDesk desk = Checks.used();
         Checks.fill(desk, 3, 2, 3, 1, 2, 3, 4, 5, 6);
         Checks.due("rotate(3, 1)", desk.rotate(3, 1), true);
         Checks.dueTable("by 1", desk, 3, 2, 3, 2, 3, 1, 5, 6, 4);

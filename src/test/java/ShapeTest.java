@@ -23,7 +23,7 @@ final class ShapeTest {
     }
 
     private static void testOldElementsAreGone() {
-        ExactTransformDesk desk = new ExactTransformDesk();
+        ExactTransformDesk desk = Checks.used();
         Checks.fill(desk, 3, 3, 16, Reference.repeated(9, 48));
         Checks.due("shape(3, 1, 1)", desk.shape(3, 1, 1), true);
         Checks.dueTable("shape to 1, 1", desk, 3, 1, 1, 0);

@@ -32,7 +32,7 @@ final class TransformTest {
         int[] x = Reference.series(rows * 100 + columns, rows * columns);
         for (int axis = 0; axis <= 2; axis++) {
             for (boolean back : new boolean[] {false, true}) {
-                ExactTransformDesk desk = new ExactTransformDesk();
+                ExactTransformDesk desk = Checks.used();
                 int v = (rows + columns + axis) % 4;
                 Checks.fill(desk, v, rows, columns, x);
                 String call = rows + " by " + columns + ", transform(" + v + ", " + axis + ", " + back + ")";
@@ -59,7 +59,7 @@ final class TransformTest {
     }
 
     private static void testGreatestElements() {
-        ExactTransformDesk desk = new ExactTransformDesk();
+        ExactTransformDesk desk = Checks.used();
         Checks.fill(desk, 1, 3, 16, Reference.repeated(Checks.P - 1, 48));
         Checks.due("transform(1, 2, false)", desk.transform(1, 2, false), true);
         int[] want = new int[48];
