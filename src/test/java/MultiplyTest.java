@@ -1,69 +1,59 @@
 /** Promise 10: multiply. */
 final class MultiplyTest {
-    private static int[] multiplied(int[] a, int[] b) {
-        int[] answer = new int[a.length];
-        for (int i = 0; i < a.length; i++) {
-            answer[i] = Reference.times(a[i], b[i]);
-        }
-        return answer;
-    }
+    private static final TableEdges EDGES = new TableEdges("multiply", 3, (d, t) -> d.multiply(t[0], t[1], t[2]),
+        Definitions::multiplied);
 
-    private static void testShape(int rows, int columns) {
-        int[] a = Reference.series(7 * rows, rows * columns);
-        int[] b = Reference.series(-7 * columns, rows * columns);
-        ExactTransformDesk desk = Checks.used();
-        Checks.fill(desk, 1, rows, columns, a);
-        Checks.fill(desk, 3, rows, columns, b);
-        String call = rows + " by " + columns + ", multiply(0, 1, 3)";
-        Checks.due(call, desk.multiply(0, 1, 3), true);
-        Checks.dueTable(call, desk, 0, rows, columns, multiplied(a, b));
-        Checks.dueTable(call, desk, 1, rows, columns, a);
-        Checks.dueTable(call, desk, 3, rows, columns, b);
+    private static void testEveryShape() {
+        for (int[] shape : Checks.everyShape()) {
+            Table a = Table.spread(7 * shape[0], shape[0], shape[1]);
+            Table b = Table.spread(-7 * shape[1], shape[0], shape[1]);
+            EDGES.taken(Tables.furnished().with(1, a).with(3, b), 0, 1, 3);
+        }
     }
 
     private static void testByHand() {
-        ExactTransformDesk desk = Checks.furnished();
-        Checks.due("multiply(2, 0, 1)", desk.multiply(2, 0, 1), true);
-        Checks.dueTable("multiply into another shape", desk, 2, 1, 4, 0, 56, 33, Checks.P - 8);
-        Checks.fill(desk, 1, 1, 4, Reference.repeated(Checks.P - 1, 4));
-        Checks.due("multiply(3, 1, 1)", desk.multiply(3, 1, 1), true);
-        Checks.dueTable("greatest elements", desk, 3, 1, 4, 1, 1, 1, 1);
+        Tables before = Tables.furnished();
+        Table products = Table.row(0, 56, 33, Checks.P - 8);
+        before.taken("multiply(2, 0, 1)", d -> d.multiply(2, 0, 1), before.with(2, products));
+        before.taken("multiply(0, 0, 1)", d -> d.multiply(0, 0, 1), before.with(0, products));
+        before.taken("multiply(1, 0, 1)", d -> d.multiply(1, 0, 1), before.with(1, products));
+        before.taken("multiply(2, 2, 2)", d -> d.multiply(2, 2, 2), before.with(2, new Table(2, 2, 441, 484, 529, 576)));
     }
 
-    private static void testTargetIsSource() {
-        ExactTransformDesk desk = Checks.furnished();
-        Checks.due("multiply(0, 0, 1)", desk.multiply(0, 0, 1), true);
-        Checks.dueTable("c is a", desk, 0, 1, 4, 0, 56, 33, Checks.P - 8);
-        desk = Checks.furnished();
-        Checks.due("multiply(1, 0, 1)", desk.multiply(1, 0, 1), true);
-        Checks.dueTable("c is b", desk, 1, 1, 4, 0, 56, 33, Checks.P - 8);
-        Checks.due("multiply(2, 2, 2)", desk.multiply(2, 2, 2), true);
-        Checks.dueTable("all the same", desk, 2, 2, 2, 441, 484, 529, 576);
-    }
-
+    /** "otherwise as add": "False, changing nothing, if a number is outside 0..3 or the shapes differ." */
     private static void testRefusals() {
-        for (int v : Checks.NO_TABLES) {
-            Checks.refused("multiply(" + v + ", 0, 1)", Checks.furnished(), d -> d.multiply(v, 0, 1));
-            Checks.refused("multiply(2, " + v + ", 1)", Checks.furnished(), d -> d.multiply(2, v, 1));
-            Checks.refused("multiply(2, 0, " + v + ")", Checks.furnished(), d -> d.multiply(2, 0, v));
-            Checks.refused("multiply(2, " + v + ", " + v + ")", Checks.furnished(), d -> d.multiply(2, v, v));
-        }
-        Checks.refused("multiply of 1 by 4 and 2 by 2", Checks.furnished(), d -> d.multiply(0, 0, 2));
-        Checks.refused("multiply of 2 by 2 and 1 by 4", Checks.furnished(), d -> d.multiply(2, 2, 0));
-        Checks.refused("multiply of 1 by 4 and 1 by 3", Checks.furnished(), d -> d.multiply(1, 0, 3));
+        EDGES.outside(Tables.alike(1, 1));
+        EDGES.outside(Tables.alike(1, 4));
+        EDGES.outside(Tables.alike(16, 3));
+        EDGES.shapesThatDiffer();
+    }
+
+    /** "otherwise as add": "c gets it", the shape; "what is read is what was there before the call". */
+    private static void testTargets() {
+        EDGES.inside(Tables.alike(1, 1));
+        EDGES.inside(Tables.alike(2, 3));
+        EDGES.inside(Tables.furnished().with(1, Table.row(6, 5, 4, 3)).with(2, Table.row(7, 1, 0, 2)).with(3, Table.row(1, 2, 3, 4)));
+        EDGES.shapes();
+        EDGES.oldShapes(Tables.alike(5, 2));
+        EDGES.oldShapes(Tables.alike(3, 16));
+    }
+
+    /** Products of the least and greatest elements, and ones just below and above P. */
+    private static void testProducts() {
+        Tables before = Tables.row(0, 0, 1, Checks.P - 1, Checks.P - 1, 507386880, 507386881)
+            .with(1, Table.row(0, Checks.P - 1, Checks.P - 1, Checks.P - 1, 2, 2, 2));
+        before.taken("products around P", d -> d.multiply(2, 0, 1),
+            before.with(2, Table.row(0, 0, Checks.P - 1, 1, Checks.P - 2, Checks.P - 1, 1)));
+        Tables full = Tables.fresh().with(0, Table.filled(Checks.P - 1, 3, 16));
+        full.taken("greatest elements", d -> d.multiply(3, 0, 0), full.with(3, Table.filled(1, 3, 16)));
     }
 
     public static void main(String[] args) {
-        for (int rows = 1; rows <= 16; rows++) {
-            for (int columns = 1; columns <= 16; columns++) {
-                if (Checks.isShape(rows, columns)) {
-                    testShape(rows, columns);
-                }
-            }
-        }
+        testEveryShape();
         testByHand();
-        testTargetIsSource();
         testRefusals();
+        testTargets();
+        testProducts();
         Checks.finish();
     }
 }

@@ -1,70 +1,78 @@
 /** Promise 12: reciprocal. */
 final class ReciprocalTest {
-    /** The first n coefficients of the product must be 1, 0, 0, .. */
-    private static void dueReciprocal(String call, int[] a, int[] c) {
-        Checks.due(call + ": elements", c.length, a.length);
-        for (int k = 0; k < a.length; k++) {
-            long sum = 0;
-            for (int i = 0; i <= k; i++) {
-                sum += Reference.times(a[i], c[k - i]);
-            }
-            Checks.due(call + ": coefficient " + k + " of the product", Reference.mod(sum), k == 0 ? 1 : 0);
-        }
-    }
+    private static final TableEdges EDGES = new TableEdges("reciprocal", 2, (d, t) -> d.reciprocal(t[0], t[1]),
+        (a, b) -> Definitions.reciprocal(a));
 
-    private static void testRow(int[] a) {
-        ExactTransformDesk desk = Checks.used();
-        Checks.fill(desk, 3, 1, a.length, a);
-        desk.shape(1, 6, 7);
-        String call = a.length + " elements from " + a[0] + ", reciprocal(1, 3)";
-        Checks.due(call, desk.reciprocal(1, 3), true);
-        int[] c = Checks.read(desk, 1);
-        dueReciprocal(call, a, c);
-        Checks.dueTable(call, desk, 1, 1, a.length, c);
-        Checks.dueTable(call, desk, 3, 1, a.length, a);
-        Checks.due("reciprocal(3, 3)", desk.reciprocal(3, 3), true);
-        Checks.dueTable(call + " in place", desk, 3, 1, a.length, c);
+    private static void testEveryLength() {
+        for (int n = 1; n <= 16; n++) {
+            for (int lead : new int[] {1, 2, 17, Checks.P - 1, 123456789}) {
+                Table a = Table.spread(n + lead, 1, n).with(0, lead);
+                EDGES.taken(Tables.furnished().with(3, a), 1, 3);
+                EDGES.taken(Tables.furnished().with(3, a), 3, 3);
+            }
+            EDGES.taken(Tables.furnished().with(3, Table.filled(Checks.P - 1, 1, n)), 2, 3);
+            EDGES.taken(Tables.furnished().with(3, Table.single(1, n, 0, 5)), 2, 3);
+        }
     }
 
     private static void testByHand() {
-        ExactTransformDesk desk = Checks.deskWithRow(1, Checks.P - 1, 0, 0, 0);
-        desk.reciprocal(1, 0);
-        Checks.dueTable("of 1 - x", desk, 1, 1, 5, 1, 1, 1, 1, 1);
-        Checks.fill(desk, 0, 1, 4, 1, 2, 0, 0);
-        desk.reciprocal(0, 0);
-        Checks.dueTable("of 1 + 2x", desk, 0, 1, 4, 1, Checks.P - 2, 4, Checks.P - 8);
-        Checks.fill(desk, 0, 1, 1, 2);
-        desk.reciprocal(2, 0);
-        Checks.dueTable("of 2", desk, 2, 1, 1, 507386881);
+        Tables before = Tables.row(1, Checks.P - 1, 0, 0, 0);
+        before.taken("of 1 - x", d -> d.reciprocal(1, 0), before.with(1, Table.row(1, 1, 1, 1, 1)));
+        Tables.row(1, 2, 0, 0).taken("of 1 + 2x", d -> d.reciprocal(0, 0), Tables.row(1, Checks.P - 2, 4, Checks.P - 8));
+        Tables.row(2).taken("of 2", d -> d.reciprocal(0, 0), Tables.row(507386881));
     }
 
+    /** "False, changing nothing, if a number is outside 0..3 or a is not such": here, if it has more rows. */
     private static void testRefusals() {
-        for (int v : Checks.NO_TABLES) {
-            Checks.refused("reciprocal(" + v + ", 0)", Checks.furnished(), d -> d.reciprocal(v, 0));
-            Checks.refused("reciprocal(0, " + v + ")", Checks.furnished(), d -> d.reciprocal(0, v));
+        EDGES.outside(Tables.alike(1, 1));
+        EDGES.outside(Tables.alike(1, 16));
+        EDGES.moreRows();
+        // The target may have had more rows: only those of a count.
+        EDGES.refused(Tables.furnished(), 0, 2);
+        EDGES.taken(Tables.furnished(), 2, 0);
+    }
+
+    /** "with a[0] not 0": refused at 0, however it came there, and taken at 1 and P - 1. */
+    private static void testLead() {
+        for (int n : new int[] {1, 2, 3, 15, 16}) {
+            Tables before = Tables.alike(1, n);
+            for (int a = 0; a < 4; a++) {
+                for (int c = 0; c < 4; c++) {
+                    EDGES.refused(before.with(a, before.get(a).with(0, 0)), c, a);
+                    EDGES.taken(before.with(a, before.get(a).with(0, 1)), c, a);
+                    EDGES.taken(before.with(a, before.get(a).with(0, Checks.P - 1)), c, a);
+                }
+            }
         }
-        Checks.refused("reciprocal of a row from 0", Checks.furnished(), d -> d.reciprocal(0, 1));
-        Checks.refused("reciprocal of a row from 0 in place", Checks.furnished(), d -> d.reciprocal(1, 1));
-        Checks.refused("reciprocal of 2 by 2", Checks.furnished(), d -> d.reciprocal(0, 2));
-        ExactTransformDesk desk = Checks.furnished();
-        desk.put(0, 0, -Checks.P);
-        Checks.refused("reciprocal of a row from -P", desk, d -> d.reciprocal(3, 0));
-        Checks.fill(desk, 0, 3, 1, 1, 2, 3);
-        Checks.refused("reciprocal of one column", desk, d -> d.reciprocal(3, 0));
-        Checks.refused("reciprocal of the single 0", Checks.used(), d -> d.reciprocal(1, 0));
+        for (int zero : new int[] {0, Checks.P, -Checks.P, 2 * Checks.P, -2 * Checks.P}) {
+            Tables after = Tables.row(0, 5);
+            Tables.row(1, 5).taken("a[0] put as " + zero, d -> d.put(0, 0, zero) && !d.reciprocal(1, 0), after);
+        }
+    }
+
+    /** Only the lead may not be 0: all else may. */
+    private static void testZerosBehind() {
+        Tables before = Tables.furnished().with(0, Table.single(1, 16, 0, Checks.P - 1));
+        before.taken("of P - 1", d -> d.reciprocal(2, 0), before.with(2, Table.single(1, 16, 0, Checks.P - 1)));
+        Tables last = Tables.fresh().with(0, Table.single(1, 16, 15, 4).with(0, 1));
+        last.taken("of 1 + 4x^15", d -> d.reciprocal(1, 0), last.with(1, Table.single(1, 16, 15, Checks.P - 4).with(0, 1)));
+    }
+
+    /** "c becomes the one row of n", whatever it was; c may be a. */
+    private static void testTargets() {
+        for (int n : new int[] {1, 2, 15, 16}) {
+            EDGES.inside(Tables.alike(1, n));
+            EDGES.oldShapes(Tables.alike(1, n));
+        }
     }
 
     public static void main(String[] args) {
-        for (int n = 1; n <= 16; n++) {
-            for (int lead : new int[] {1, 2, 17, Checks.P - 1, 123456789}) {
-                int[] a = Reference.series(n + lead, n);
-                a[0] = lead;
-                testRow(a);
-            }
-            testRow(Reference.repeated(Checks.P - 1, n));
-        }
+        testEveryLength();
         testByHand();
         testRefusals();
+        testLead();
+        testZerosBehind();
+        testTargets();
         Checks.finish();
     }
 }

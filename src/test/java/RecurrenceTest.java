@@ -1,57 +1,61 @@
-import java.util.Arrays;
-
 /** Promise 15: recurrence. */
 final class RecurrenceTest {
-    private static void testByElimination() {
-        for (int[] sequence : Sequences.all()) {
-            ExactTransformDesk desk = Checks.deskWithRow(sequence);
-            String call = "recurrence of " + Arrays.toString(sequence);
-            Checks.due(call, desk.recurrence(0), Reference.leastLength(sequence));
-            Checks.dueTable(call, desk, 0, 1, sequence.length, sequence);
+    private static final RowEdges EDGES = new RowEdges("recurrence", (d, v) -> d.recurrence(v), Definitions::leastLength);
+
+    private static void testByHand() {
+        EDGES.due(1, 1, 3, 9, 27);
+        EDGES.due(2, 1, 2, 3, 4, 5);
+        EDGES.due(3, 0, 1, 4, 9, 16, 25, 36);
+        EDGES.due(2, 1, 1, 2, 3, 5, 8);
+        EDGES.due(1, 1, Checks.P - 1, 1, Checks.P - 1);
+    }
+
+    /** "the least L (0..n)": 0 for zeros alone, n where only the last element is not 0, and every L between. */
+    private static void testEveryLength() {
+        for (int n = 1; n <= 16; n++) {
+            EDGES.due(0, new int[n]);
+            EDGES.answers(Tables.fresh().with(0, Table.single(1, n, n - 1, 1)), 0, n);
+            EDGES.answers(Tables.fresh().with(0, Table.single(1, n, n - 1, Checks.P - 1)), 0, n);
+            for (int length = 0; length <= n; length++) {
+                EDGES.answers(Tables.furnished().with(0, Sequences.lateStart(length, n)), 0, length);
+            }
         }
     }
 
-    private static void testByHand() {
-        Checks.due("all 0", Checks.deskWithRow(0, 0, 0, 0).recurrence(0), 0);
-        Checks.due("powers of 3", Checks.deskWithRow(1, 3, 9, 27).recurrence(0), 1);
-        Checks.due("5 and then 0", Checks.deskWithRow(5, 0, 0).recurrence(0), 1);
-        Checks.due("counting", Checks.deskWithRow(1, 2, 3, 4, 5).recurrence(0), 2);
-        Checks.due("squares", Checks.deskWithRow(0, 1, 4, 9, 16, 25, 36).recurrence(0), 3);
-        Checks.due("a late start", Checks.deskWithRow(0, 0, 0, 6).recurrence(0), 4);
-        Checks.due("a single 0", Checks.deskWithRow(0).recurrence(0), 0);
-        Checks.due("a single 8", Checks.deskWithRow(8).recurrence(0), 1);
-        int[] last = new int[16];
-        last[15] = 1;
-        Checks.due("15 times 0, then 1", Checks.deskWithRow(last).recurrence(0), 16);
+    /** "for every i from L to n-1": the last element alone can break what held until then. */
+    private static void testLastElement() {
+        EDGES.due(1, 5, 0, 0);
+        EDGES.due(3, 5, 0, 0, 1);
+        EDGES.due(1, 1, 2, 4, 8);
+        EDGES.due(4, 1, 2, 4, 8, 17);
+        EDGES.due(6, 1, 2, 4, 8, 16, 32, 65);
+        EDGES.due(1, 1);
+        EDGES.due(0, 0);
+        EDGES.due(1, 1, 1);
+        EDGES.due(2, 0, 1);
+        EDGES.due(1, 1, 0);
     }
 
     /** An earlier search may leave nothing behind that a later one reads. */
     private static void testCallsStandApart() {
-        ExactTransformDesk desk = Checks.deskWithRow(Reference.series(3, 16));
-        Checks.fill(desk, 1, 1, 5, 1, 2, 4, 8, 16);
-        Checks.due("16 spread elements", desk.recurrence(0), Reference.leastLength(Reference.series(3, 16)));
+        Table spread = Table.spread(3, 1, 16);
+        ExactTransformDesk desk = Tables.fresh().with(0, spread).with(1, Table.row(1, 2, 4, 8, 16)).desk();
+        Checks.due("16 spread elements", desk.recurrence(0), Definitions.leastLength(spread));
         Checks.due("powers of 2 after that", desk.recurrence(1), 1);
-        Checks.due("a new table after that", desk.recurrence(2), 0);
-        Checks.due("16 spread elements again", desk.recurrence(0), Reference.leastLength(Reference.series(3, 16)));
-    }
-
-    private static void testNone() {
-        ExactTransformDesk desk = Checks.furnished();
-        String before = Checks.state(desk);
-        for (int v : Checks.NO_TABLES) {
-            Checks.due("recurrence(" + v + ")", desk.recurrence(v), -1);
-        }
-        Checks.due("recurrence of 2 by 2", desk.recurrence(2), -1);
-        Checks.dueState("recurrence", desk, before);
-        desk.shape(1, 16, 1);
-        Checks.due("recurrence of one column", desk.recurrence(1), -1);
+        Checks.due("a single 0 after that", desk.recurrence(2), 0);
+        Checks.due("16 spread elements again", desk.recurrence(0), Definitions.leastLength(spread));
     }
 
     public static void main(String[] args) {
-        testByElimination();
+        EDGES.sequences();
         testByHand();
+        testEveryLength();
+        testLastElement();
         testCallsStandApart();
-        testNone();
+        // "-1 if v is outside 0..3 or has more than one row."
+        EDGES.tables();
+        EDGES.moreRows();
+        EDGES.smallerNow();
         Checks.finish();
     }
 }

@@ -1,50 +1,62 @@
 /** Promise 11: rotate. */
 final class RotateTest {
-    private static int[] rotated(int[] x, int rows, int columns, int by) {
-        int[] answer = new int[x.length];
-        for (int i = 0; i < rows; i++) {
-            for (int j = 0; j < columns; j++) {
-                answer[i * columns + j] = x[i * columns + Math.floorMod((long) j + by, columns)];
-            }
-        }
-        return answer;
+    private static TableEdges edges(int by) {
+        return new TableEdges("rotate by " + by, 1, (d, t) -> d.rotate(t[0], by), (a, b) -> Definitions.rotated(a, by));
     }
 
-    private static void testShape(int rows, int columns, int by) {
-        int[] x = Reference.series(rows * 40 + columns, rows * columns);
-        ExactTransformDesk desk = Checks.furnished();
-        Checks.fill(desk, 2, rows, columns, x);
-        String call = rows + " by " + columns + ", rotate(2, " + by + ")";
-        Checks.due(call, desk.rotate(2, by), true);
-        Checks.dueTable(call, desk, 2, rows, columns, rotated(x, rows, columns, by));
-        Checks.dueTable(call, desk, 1, 1, 4, 0, 8, 3, 8);
-        Checks.dueTable(call, desk, 3, 1, 3, 31, 32, 33);
+    private static void testEveryShape() {
+        for (int[] shape : Checks.everyShape()) {
+            Table x = Table.steps(7, 40, shape[0], shape[1]);
+            for (int by = -2 * shape[1] - 1; by <= 2 * shape[1] + 1; by++) {
+                edges(by).taken(Tables.furnished().with(2, x), 2);
+            }
+        }
     }
 
     private static void testByHand() {
-        ExactTransformDesk desk = Checks.used();
-        Checks.fill(desk, 3, 2, 3, 1, 2, 3, 4, 5, 6);
-        Checks.due("rotate(3, 1)", desk.rotate(3, 1), true);
-        Checks.dueTable("by 1", desk, 3, 2, 3, 2, 3, 1, 5, 6, 4);
-        Checks.due("rotate(3, -2)", desk.rotate(3, -2), true);
-        Checks.dueTable("by -2 after that", desk, 3, 2, 3, 3, 1, 2, 6, 4, 5);
+        Tables before = Tables.furnished().with(3, new Table(2, 3, 1, 2, 3, 4, 5, 6));
+        before.taken("by 1", d -> d.rotate(3, 1), before.with(3, new Table(2, 3, 2, 3, 1, 5, 6, 4)));
+        before.taken("by -1", d -> d.rotate(3, -1), before.with(3, new Table(2, 3, 3, 1, 2, 6, 4, 5)));
+        before.taken("by 3", d -> d.rotate(3, 3), before);
+        before.taken("by -3", d -> d.rotate(3, -3), before);
+        before.taken("by 0", d -> d.rotate(3, 0), before);
+        before.taken("by 4", d -> d.rotate(3, 4), before.with(3, new Table(2, 3, 2, 3, 1, 5, 6, 4)));
+        before.taken("by 2147483647", d -> d.rotate(3, Checks.GREATEST), before.with(3, new Table(2, 3, 2, 3, 1, 5, 6, 4)));
+        before.taken("by -2147483648", d -> d.rotate(3, Checks.LEAST), before.with(3, new Table(2, 3, 2, 3, 1, 5, 6, 4)));
     }
 
-    public static void main(String[] args) {
-        for (int rows = 1; rows <= 16; rows++) {
-            for (int columns = 1; columns <= 16; columns++) {
-                for (int by = -columns - 1; by <= columns + 1 && Checks.isShape(rows, columns); by++) {
-                    testShape(rows, columns, by);
+    /** "element (j + by) mod columns" for any int, where j + by is no int any more and in every number of columns. */
+    private static void testEveryInt() {
+        for (int columns = 1; columns <= 16; columns++) {
+            for (int rows : new int[] {1, 48 / columns > 16 ? 16 : 48 / columns}) {
+                Tables before = Tables.furnished().with(2, Table.steps(9, 11, rows, columns));
+                for (int by : Checks.ANY_INTS) {
+                    edges(by).taken(before, 2);
                 }
-                for (int k = 0; k < Checks.EDGE_INTS.length && Checks.isShape(rows, columns); k++) {
-                    testShape(rows, columns, Checks.EDGE_INTS[k]);
+                for (int off = 0; off <= columns; off++) {
+                    edges(Checks.GREATEST - off).taken(before, 2);
+                    edges(Checks.LEAST + off).taken(before, 2);
                 }
             }
         }
-        testByHand();
-        for (int v : Checks.NO_TABLES) {
-            Checks.refused("rotate(" + v + ", 1)", Checks.furnished(), d -> d.rotate(v, 1));
+    }
+
+    /** "False if v is outside 0..3." */
+    private static void testTables() {
+        for (int by : new int[] {0, 1, Checks.LEAST, Checks.GREATEST}) {
+            for (Tables before : new Tables[] {Tables.furnished(), Tables.alike(3, 16)}) {
+                edges(by).outside(before);
+                edges(by).inside(before);
+            }
+            edges(by).shapes();
         }
+    }
+
+    public static void main(String[] args) {
+        testEveryShape();
+        testByHand();
+        testEveryInt();
+        testTables();
         Checks.finish();
     }
 }

@@ -6,8 +6,8 @@ final class Sequences {
     private Sequences() {
     }
 
-    static List<int[]> all() {
-        List<int[]> found = new ArrayList<>();
+    static List<Table> all() {
+        List<Table> found = new ArrayList<>();
         for (int n = 1; n <= 6; n++) {
             addAllOver(found, new int[] {0, 1, Checks.P - 1}, n);
         }
@@ -15,15 +15,19 @@ final class Sequences {
             addAllOver(found, new int[] {0, 1}, n);
         }
         for (int n = 1; n <= 16; n++) {
-            found.add(Reference.series(n, n));
-            found.add(Reference.repeated(Checks.P - 1, n));
-            addSingles(found, n);
-            addMade(found, n);
+            found.add(Table.spread(n, 1, n));
+            found.add(Table.filled(Checks.P - 1, 1, n));
+            for (int place = 0; place < n; place++) {
+                found.add(Table.single(1, n, place, 3 + place));
+            }
+            for (int length = 1; length <= n; length++) {
+                addMade(found, n, length);
+            }
         }
         return found;
     }
 
-    private static void addAllOver(List<int[]> found, int[] letters, int n) {
+    private static void addAllOver(List<Table> found, int[] letters, int n) {
         int count = 1;
         for (int i = 0; i < n; i++) {
             count *= letters.length;
@@ -35,36 +39,41 @@ final class Sequences {
                 sequence[i] = letters[rest % letters.length];
                 rest /= letters.length;
             }
-            found.add(sequence);
+            found.add(Table.row(sequence));
         }
     }
 
-    private static void addSingles(List<int[]> found, int n) {
-        for (int place = 0; place < n; place++) {
-            int[] sequence = new int[n];
-            sequence[place] = 3 + place;
-            found.add(sequence);
+    /** A recurrence with well spread factors, and the same with one element changed. */
+    private static void addMade(List<Table> found, int n, int length) {
+        int[] start = Reference.series(-17 * n - length, length);
+        Table made = following(start, Reference.series(31 * n + length, length), n);
+        found.add(made);
+        for (int place : new int[] {0, n / 2, n - 1}) {
+            found.add(made.with(place, Reference.mod(made.at(0, place) + 1L)));
         }
     }
 
-    /** Recurrences of every length with well spread factors, and the same with one element changed. */
-    private static void addMade(List<int[]> found, int n) {
-        for (int length = 1; length <= n; length++) {
-            int[] factors = Reference.series(31 * n + length, length);
-            int[] sequence = Reference.series(-17 * n - length, n);
-            for (int i = length; i < n; i++) {
-                long sum = 0;
-                for (int j = 1; j <= length; j++) {
-                    sum += Reference.times(factors[j - 1], sequence[i - j]);
-                }
-                sequence[i] = Reference.mod(sum);
+    /** n elements: the start, and then each from those before it by the factors q1, q2, .. */
+    static Table following(int[] start, int[] factors, int n) {
+        int[] sequence = new int[n];
+        for (int i = 0; i < n; i++) {
+            long sum = 0;
+            for (int j = 1; j <= factors.length && i >= start.length; j++) {
+                sum += Reference.times(factors[j - 1], sequence[i - j]);
             }
-            found.add(sequence);
-            for (int place : new int[] {0, n / 2, n - 1}) {
-                int[] changed = sequence.clone();
-                changed[place] = Reference.mod(changed[place] + 1L);
-                found.add(changed);
-            }
+            sequence[i] = i < start.length ? start[i] : Reference.mod(sum);
         }
+        return Table.row(sequence);
+    }
+
+    /** The sequence 0, .. 0, 1 of the length, and on by factors that are all 1: it needs just so many factors. */
+    static Table lateStart(int length, int n) {
+        int[] start = new int[Math.min(length, n)];
+        if (length >= 1 && length <= n) {
+            start[length - 1] = 1;
+        }
+        int[] factors = new int[length];
+        java.util.Arrays.fill(factors, 1);
+        return following(start, factors, n);
     }
 }
