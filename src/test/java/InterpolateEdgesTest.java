@@ -56,7 +56,10 @@ final class InterpolateEdgesTest {
 
     /** Numbers are the same element if they are so modulo P, and then only. */
     private static void testRepeatsModuloP() {
-        int[][] same = {{0, Checks.P}, {0, -Checks.P}, {-1, Checks.P - 1}, {3, 3 - Checks.P}, {Checks.LEAST, 896837635}, {Checks.GREATEST, 117936125}};
+        int[][] same = {
+            {0, Checks.P}, {0, -Checks.P}, {-1, Checks.P - 1}, {3, 3 - Checks.P}, {Checks.LEAST, 896837635},
+            {Checks.GREATEST, 117936125}
+        };
         for (int[] pair : same) {
             int element = Reference.mod(pair[0]);
             Tables after = Tables.row(element, element).with(1, Table.row(4, 5));

@@ -2,6 +2,7 @@
 final class LifeTest {
     private static final int CALLS = 512;
     private static final int KINDS = 15;
+    private static final int PUT = 1;
 
     private final ExactTransformDesk desk = new ExactTransformDesk();
     private final Model model = new Model();
@@ -19,7 +20,7 @@ final class LifeTest {
     /** Half of the calls are puts, because the other ones soon leave tables with nothing but 0. */
     private void mix(int calls) {
         while (made < calls) {
-            call(below(2) == 0 ? 1 : below(KINDS));
+            call(below(2) == 0 ? PUT : below(KINDS));
         }
     }
 
@@ -33,18 +34,24 @@ final class LifeTest {
     }
 
     private int anyInt() {
-        return below(3) == 0 ? Checks.ANY_INTS[below(Checks.ANY_INTS.length)] : below(3) == 0 ? (int) (mixed >> 9) : below(9) - 4;
+        return switch (below(4)) {
+            case 0 -> Checks.ANY_INTS[below(Checks.ANY_INTS.length)];
+            case 1 -> (int) (mixed >> 9);
+            default -> below(9) - 4;
+        };
     }
 
     private int choice() {
         return below(15) == 0 ? anyInt() : below(3);
     }
 
+    /** A wrong answer is told with all calls since the last one that was told. */
     private void due(String call, int got, int want) {
         made++;
         story.append(call).append("; ");
         if (got != want) {
-            Checks.due("call " + made + " of " + story, got, want);
+            Checks.due("call " + made + " of a run, " + story, got, want);
+            story.setLength(0);
         }
     }
 
@@ -55,7 +62,7 @@ final class LifeTest {
     private void call(int kind) {
         switch (kind) {
             case 0 -> shape(table());
-            case 1 -> put(table());
+            case PUT -> put(table());
             case 2 -> at(table());
             case 3 -> size(table());
             case 4 -> transform(table(), choice(), below(2) == 0);

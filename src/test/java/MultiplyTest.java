@@ -32,7 +32,6 @@ final class MultiplyTest {
     private static void testTargets() {
         EDGES.inside(Tables.alike(1, 1));
         EDGES.inside(Tables.alike(2, 3));
-        EDGES.inside(Tables.furnished().with(1, Table.row(6, 5, 4, 3)).with(2, Table.row(7, 1, 0, 2)).with(3, Table.row(1, 2, 3, 4)));
         EDGES.shapes();
         EDGES.oldShapes(Tables.alike(5, 2));
         EDGES.oldShapes(Tables.alike(3, 16));

@@ -42,9 +42,11 @@ final class RowEdges {
         for (int n : new int[] {1, 2, 3, 16}) {
             ExactTransformDesk desk = Tables.alike(3, 16).desk();
             desk.shape(2, 1, n);
-            Checks.due(name + " of " + n + " times 0, once 3 by 16", call.applyAsInt(desk, 2), answer.applyAsInt(Table.filled(0, 1, n)));
+            int ofZeros = answer.applyAsInt(Table.filled(0, 1, n));
+            Checks.due(name + " of " + n + " times 0, once 3 by 16", call.applyAsInt(desk, 2), ofZeros);
             desk.put(2, 0, 6);
-            Checks.due(name + " of a single 6 in " + n, call.applyAsInt(desk, 2), answer.applyAsInt(Table.single(1, n, 0, 6)));
+            int ofSix = answer.applyAsInt(Table.single(1, n, 0, 6));
+            Checks.due(name + " of 6 and then 0, once 3 by 16", call.applyAsInt(desk, 2), ofSix);
         }
     }
 
