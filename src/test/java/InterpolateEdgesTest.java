@@ -48,6 +48,7 @@ final class InterpolateEdgesTest {
                     EDGES.refused(repeat, 0, 0, 1);
                     EDGES.refused(repeat, 1, 0, 1);
                     EDGES.refused(repeat, 2, 0, 0);
+                    EDGES.refused(Tables.furnished().with(0, repeat.get(0)).with(2, repeat.get(2)), 1, 0, 2);
                 }
             }
             EDGES.refused(before.with(0, Table.filled(7, 1, n)), 2, 0, 1);

@@ -50,6 +50,10 @@ final class Tables {
         for (int v = 0; v < 4; v++) {
             fill(desk, v, tables[v]);
         }
+        // The shapes may have cleared what is used inside: a turn by 0 fills it again and changes no table.
+        for (int v = 0; v < 4; v++) {
+            desk.rotate(v, 0);
+        }
         return desk;
     }
 
